@@ -62,6 +62,10 @@ public final class PromiseTest {
         for (int i = 0; i < cells.length; i++) x.cell(s, i, cells[i]);
     }
 
+    private static void unsayAll(SaidTwice x) {
+        for (int k = x.count(1); k > 0; k--) due("13 unsaid", x.unsay(), k - 1);
+    }
+
     private static void newObject() {
         SaidTwice x = new SaidTwice();
         due("1 speakers", x.count(0), 0);
@@ -188,6 +192,13 @@ public final class PromiseTest {
         fault("once a);", 6);
         fault("once ();", 6);
         fault("once or;", 5);
+        fault("once a or;", 9);
+        fault("once not;", 8);
+        fault("once a<;", 7);
+        fault("once a+;", 7);
+        fault("once -;", 6);
+        fault("once (;", 6);
+        fault("once (a-);", 8);
         fault("once once;", 5);
         fault("once a and;", 10);
         fault("once a and or b;", 11);
@@ -200,7 +211,27 @@ public final class PromiseTest {
         fault("once (((((a+-b", 12);
         fault("once (((((a and (b", 16);
         fault("once -----(a", 10);
+        faultsOfSpelling();
         fullTexts();
+    }
+
+    private static void faultsOfSpelling() {
+        String[] keys = {"ance", "onc", "onces", "ones", "twise", "cost", "coste"};
+        for (String key : keys) fault(key + " a;", 0);
+        fault("once a ar b;", 7);
+        fault("once a end b;", 7);
+        fault("once nor a;", 5);
+        fault("once sot a;", 5);
+        fault("once tho;", 5);
+        fault("once z;", 5);
+        for (int b = 0; b < 256; b++) {
+            boolean isToken = b >= 'a' && b <= 'z' || b >= '0' && b <= '9' || "();+-*<= \n".indexOf(b) >= 0;
+            if (isToken) continue;
+            fault((char) b + " a;twice 0;costs 1;", 0);
+            fault("once " + (char) b + ";twice 0;costs 1;", 5);
+            fault("once a " + (char) b + " a;twice 0;costs 1;", 7);
+            fault("once a;twice 0;costs 1;" + (char) b, 23);
+        }
     }
 
     private static void fullTexts() {
@@ -474,6 +505,14 @@ public final class PromiseTest {
         due("15 said by who", y.worlds(), A);
         y.force(1);
         due("15 the law is nobody's", y.worlds(), 0);
+        SaidTwice z = new SaidTwice();
+        pair(z, "who=1 and a", "who=1 and b", "1");
+        z.speaker(EARLY, 0);
+        z.speaker(EARLY, 0);
+        z.say(1, 1, 1);
+        due("15 both said by who", z.worlds(), B & ~A);
+        z.say(0, 1, 0);
+        due("15 neither, said by another", z.worlds(), 0);
     }
 
     private static void behind() {
@@ -558,7 +597,28 @@ public final class PromiseTest {
         due("19 none without all", y.least(0), -1);
         due("19 none without all", y.least(1), -1);
         due("19 bad ahead of -1", y.least(2), BAD);
+        SaidTwice z = earlyOfThings();
+        z.say(0, 1, 1);
+        z.say(0, 1, 0);
+        due("19 the least as bits, whichever world is first", z.least(1), 0b01);
         leastIsAll();
+        onlyWorld0();
+    }
+
+    private static SaidTwice lawOfWorld0() {
+        SaidTwice x = new SaidTwice();
+        pair(x, "a+b+c+d+e<1", "1", "1");
+        x.force(1);
+        return x;
+    }
+
+    private static void onlyWorld0() {
+        SaidTwice x = lawOfWorld0();
+        x.speaker(LATE, 0);
+        x.speaker(MAD, 0);
+        x.say(0, 0, 0);
+        x.say(1, 1, 0);
+        due("19 world 0", x.least(1), 0b01);
     }
 
     private static void leastIsAll() {
@@ -633,6 +693,7 @@ public final class PromiseTest {
         due("21 speaker", x.habit(-1, 1, 0), NO);
         due("21 world", x.habit(0, 32, 0), NO);
         due("21 world", x.habit(0, -1, 0), NO);
+        due("21 world", x.habit(0, 33, 0), NO);
         due("21 part", x.habit(0, 1, 2), NO);
         due("21 part", x.habit(0, 1, -1), NO);
     }
@@ -671,6 +732,10 @@ public final class PromiseTest {
         for (int what = 0; what < 3; what++) due("23 nobody", none.ask(what), -1);
         due("23 bad ahead of -1", none.ask(3), BAD);
         due("23 bad ahead of -1", none.ask(-1), BAD);
+        none.speaker(EARLY, 0);
+        due("23 text 0 alone", none.ask(0), 0);
+        due("23 text 0 alone", none.ask(1), 32);
+        due("23 text 0 alone", none.ask(2), 1);
         SaidTwice x = earlyOfThings();
         due("23 the first of like ones", x.ask(0), 1);
         due("23 worst", x.ask(1), 16);
@@ -732,6 +797,9 @@ public final class PromiseTest {
         due("24 nobody", none.two(1), -1);
         due("24 bad ahead of -1", none.two(2), BAD);
         due("24 bad ahead of -1", none.two(-1), BAD);
+        none.speaker(EARLY, 0);
+        due("24 text 0 alone", none.two(0), 0);
+        due("24 text 0 alone", none.two(1), 32);
         SaidTwice x = earlyOfThings();
         due("24 the first", x.two(0), 1);
         due("24 worst", x.two(1), 8);
@@ -924,6 +992,7 @@ public final class PromiseTest {
         x.say(0, 1, 1);
         for (int what = 0; what < 8; what++) due("31 none fits", x.many(what), -1);
         due("31 bad ahead of -1", x.many(8), BAD);
+        due("31 the most is none", lawOfWorld0().many(1), 0);
     }
 
     private static void judge() {
@@ -962,6 +1031,11 @@ public final class PromiseTest {
         due("32 thirteen rows", x.judge(3, 1), -1);
         x.cell(3, 38, 0);
         due("32 the last of thirteen", x.judge(3, 1), 12);
+        x.turn(0, MAD, 0);
+        for (int[] bad : new int[][] {{1, 1, 0}, {-1, 1, 0}, {0, 3, 0}, {0, -1, 0}, {0, 1, 2}, {0, 1, -1}}) {
+            row(x, 1, 2, 0, 1, 0, bad[0], bad[1], bad[2]);
+            due("32 none such, though a mad one could", x.judge(1, 0), 1);
+        }
     }
 
     private static void film() {
@@ -976,7 +1050,7 @@ public final class PromiseTest {
         x.sheet(0, 0, 40);
         due("33", x.film(0), 2);
         due("33 three each", x.cell(0, 6, 0), -12);
-        while (x.unsay() > 0) due("33 unsaid", x.count(1), 1);
+        unsayAll(x);
         due("33 ints", x.sayingsBy(0, 2, 0, 2), 2);
         due("33 speaker", x.said(1, 0), 1);
         due("33 text", x.said(1, 1), 4);
@@ -995,6 +1069,7 @@ public final class PromiseTest {
         due("34 seed", x.drawn(-1), BAD);
         due("34 seed", x.drawn(100000), BAD);
         due("34 seed", x.drawn(99999), 0);
+        due("34 world 0 alone", lawOfWorld0().drawn(5), 0);
         SaidTwice y = earlyOfThings();
         for (int seed = 0; seed < 40; seed++) due("34 halves", y.drawn(seed), 5);
         y.say(0, 2, 0);
@@ -1128,6 +1203,7 @@ public final class PromiseTest {
         due("37 the tape is not kept", x.count(4), 3);
         x.say(0, 5, 0);
         due("37 the image stays as it was", x.back(), 2);
+        backOfTwelve();
         SaidTwice y = new SaidTwice();
         y.image();
         due("37 texts are not kept", fair(y, "a"), 1);
@@ -1135,6 +1211,21 @@ public final class PromiseTest {
         due("37 back", y.back(), 0);
         due("37 texts are not kept", y.count(2), 2);
         due("37 law", y.count(3), 0);
+    }
+
+    private static void backOfTwelve() {
+        SaidTwice x = earlyOfThings();
+        x.speaker(EARLY, 0);
+        for (int k = 0; k < 12; k++) x.say(k % 2, k % 5, k / 6);
+        x.image();
+        unsayAll(x);
+        for (int k = 0; k < 12; k++) x.say((k + 1) % 2, 5, 1 - k / 6);
+        due("37 twelve", x.back(), 12);
+        for (int k = 0; k < 12; k++) {
+            due("37 speaker", x.said(k, 0), k % 2);
+            due("37 text", x.said(k, 1), k % 5);
+            due("37 turned", x.said(k, 2), k / 6);
+        }
     }
 
     private static void sheet() {
@@ -1156,11 +1247,19 @@ public final class PromiseTest {
         due("38 gone", x.cell(0, 0, 1), -11);
         due("38 gone again", x.sheet(0, -1, -41), 1);
         due("38 gone, no such sheet", x.sheet(4, -1, 0), BAD);
-        x.speaker(SPEAKER, 0);
-        row(x, 1, 2, 0, 0, 1);
-        x.sheet(1, 2, 3);
-        x.sayingsBy(1, 2, 0, 1);
-        due("38 all 0", x.said(0, 2), 0);
+        SaidTwice y = earlyOfThings();
+        y.speaker(MAD, 0);
+        for (int s = 0; s < 4; s++) {
+            y.sheet(s, 2, 40);
+            for (int i = 0; i < 40; i++) y.cell(s, i, 1);
+            y.sheet(s, 2, 40);
+            unsayAll(y);
+            due("38 all come", y.sayingsBy(s, 2, 0, 12), 12);
+            for (int k = 0; k < 36; k++) due("38 all 0", y.said(k / 3, k % 3), 0);
+            y.unsay();
+            due("38 the last ones come", y.sayingsBy(s, 2, 37, 1), 1);
+            for (int part = 0; part < 3; part++) due("38 all 0", y.said(11, part), 0);
+        }
     }
 
     private static void cell() {
@@ -1228,11 +1327,18 @@ public final class PromiseTest {
         due("40 as they were", x.said(2, 1), 1);
         due("40 as they were", x.said(3, 1), 2);
         row(x, 0, 1, 0, 1, 1, 0, 2, 0, 0, 3, 1);
+        due("40 one alone", x.copy(0, 1, 0, 3, 1), 1);
+        due("40 one alone", x.copy(0, 0, 0, 3, 1), 1);
         due("40 downwards", x.copy(0, 3, 0, 0, 6), 6);
         x.sayingsBy(0, 1, 0, 3);
         due("40 as they were", x.said(4, 1), 2);
         due("40 as they were", x.said(5, 1), 3);
         due("40 as they were", x.said(6, 1), 3);
+        row(x, 1, 2, 4, 5, 1, 0, 0, 0);
+        due("40 the first alone", x.copy(1, 1, 1, 4, 1), 1);
+        x.sayingsBy(1, 2, 3, 1);
+        due("40 the first alone", x.said(7, 1), 5);
+        due("40 no more than that", x.said(7, 2), 0);
     }
 
     private static void sayingsBy() {
