@@ -25,16 +25,20 @@ public final class SaidTwice {
 
     private static final int BYTES = 0, SHORTS = 1, INTS = 2, GONE = -1;
 
-    /** Sorts of tokens; a sign's sort is its byte, which is above all of these. */
+    /**
+     * Sorts of tokens. A sign's sort is its byte, so these stay below all signs; once,
+     * twice, costs follow one another, so that a text's part tells its key.
+     */
     private static final int END = 0, WRONG = 1, NUMBER = 2, NAME = 3, ONCE = 4, TWICE = 5;
     private static final int COSTS = 6, OR = 7, AND = 8, NOT = 9, NEGATE = 10;
+    private static final int PARTS = 3;
 
-    /** The value of the name who; those of a .. e are 0 .. 4. */
+    /** Behind the values 0 .. 4 of the names a .. e. */
     private static final int WHO = 5;
 
     private static final long LOT_TIMES = 48271L, LOT_MODULO = 2147483647L;
 
-    /** The worlds in which each thing is so. */
+    /** Worlds, as bits, in which each thing is so. */
     private static final int[] SO_IN = {0xAAAAAAAA, 0xCCCCCCCC, 0xF0F0F0F0, 0xFF00FF00, 0xFFFF0000};
 
     private final Tokens tokens;
@@ -183,7 +187,7 @@ public final class SaidTwice {
             case 0: return Integer.bitCount(fit);
             case 1: return thingsSure(fit, true);
             case 2: return thingsSure(fit, false);
-            case 3: return numbered(fit, 0);
+            case 3: return worldNumber(fit, 0);
             default: return NO_PART;
         }
     }
@@ -239,14 +243,14 @@ public final class SaidTwice {
                 if (p == 1 && q == 0) first++;
             }
         }
-        return lowest(first, all, part);
+        return inLowestTerms(first, all, part);
     }
 
     public int kinds(int s, int w) {
         if (!isSpeaker(s) || !isWorld(w)) return NO_SUCH;
         int found = 0;
         for (int kind = 0; kind < KINDS; kind++) {
-            if (bit(sayableWere(s, kind), w) == 1) found |= 1 << kind;
+            if (bit(allSayableWere(s, kind), w) == 1) found |= 1 << kind;
         }
         return found;
     }
@@ -398,7 +402,7 @@ public final class SaidTwice {
         if (fit == 0) return NO;
         int sum = 0;
         for (int i = 0; i < seeds; i++) sum += strangerAsks(seed + i, fit);
-        return lowest(sum, seeds, part);
+        return inLowestTerms(sum, seeds, part);
     }
 
     public int image() {
@@ -496,7 +500,8 @@ public final class SaidTwice {
 
     // ---- rows and bits
 
-    /** Number i of a row; 0 outside of it, where no caller ever reads. */
+    // Every index is looked at in these two, so that the machine never throws.
+
     private static int at(int[] row, int i) {
         return row != null && i >= 0 && i < row.length ? row[i] : 0;
     }
@@ -509,13 +514,13 @@ public final class SaidTwice {
         return some >>> i & 1;
     }
 
-    /** The 32 bits as a number that is not below 0. */
+    /** As a long, since world 31 would make an int negative. */
     private static long bits(int some) {
         return some & 0xFFFFFFFFL;
     }
 
-    /** Number i, from 0, of the worlds in some; NONE if there are not so many. */
-    private static int numbered(int some, int i) {
+    /** NONE if there are not so many. */
+    private static int worldNumber(int some, int i) {
         int ahead = 0;
         for (int w = 0; w < WORLDS; w++) {
             if (bit(some, w) == 1) {
@@ -526,14 +531,13 @@ public final class SaidTwice {
         return NONE;
     }
 
-    /** Of two sets of bits the one with fewer, of like ones the least as bits. */
+    /** Of sets with as many bits the document wants the least as bits. */
     private static int fewer(int some, int others) {
         int less = Integer.bitCount(some) - Integer.bitCount(others);
         return less < 0 || less == 0 && some < others ? some : others;
     }
 
-    /** What stands above (part 0) or below the line (1) in lowest terms; NO if below is 0. */
-    private static long lowest(int above, int below, int part) {
+    private static long inLowestTerms(int above, int below, int part) {
         int divisor = commonDivisor(above, below);
         if (below == 0 || divisor == 0) return NO;
         return part == 0 ? above / divisor : below / divisor;
@@ -552,7 +556,7 @@ public final class SaidTwice {
 
     // ---- what fits
 
-    /** Worlds in which one of a kind can say a pair as saying number n, p and q being so in these. */
+    /** P and q are the worlds in which the first and the second said are so; so is the answer. */
     private static int canSay(int kind, int more, int n, int p, int q) {
         switch (kind) {
             case EARLY: return p & ~q;
@@ -569,7 +573,6 @@ public final class SaidTwice {
         return by > 0 && n % by == 0;
     }
 
-    /** Worlds in which ONCE of a text is so, nobody being told. */
     private int onceOf(int t) {
         return texts.side(t, 0, 0);
     }
@@ -586,26 +589,24 @@ public final class SaidTwice {
         return texts.side(talk.sayingPart(k, 1), talk.sayingPart(k, 0), 1 - talk.sayingPart(k, 2));
     }
 
-    /** Worlds in which a speaker can say a text as saying number n, whatever the law is. */
+    // What is sayable is so whatever the law is: kinds and judge ask for just that.
+
     private int sayableNext(int s, int t, int turned, int n) {
         int p = texts.side(t, s, turned);
         int q = texts.side(t, s, 1 - turned);
         return canSay(at(talk.kindOf, s), at(talk.moreOf, s), n, p, q);
     }
 
-    /** Worlds in which saying k of the talk can be said, whatever the law is. */
     private int sayable(int k) {
         return sayableAs(k, at(talk.kindOf, talk.sayingPart(k, 0)));
     }
 
-    /** The same, were its speaker of a kind. */
     private int sayableAs(int k, int kind) {
         int more = at(talk.moreOf, talk.sayingPart(k, 0));
         return canSay(kind, more, k, firstSaid(k), secondSaid(k));
     }
 
-    /** Worlds in which all sayings of a speaker can be said, were it of a kind. */
-    private int sayableWere(int s, int kind) {
+    private int allSayableWere(int s, int kind) {
         int found = -1;
         for (int k = 0; k < talk.sayings; k++) {
             if (talk.sayingPart(k, 0) == s) found &= sayableAs(k, kind);
@@ -619,7 +620,6 @@ public final class SaidTwice {
         return fit;
     }
 
-    /** Worlds that fit the talk. */
     private int fitting() {
         return fittingFirst(talk.sayings);
     }
@@ -632,7 +632,6 @@ public final class SaidTwice {
         return fit;
     }
 
-    /** Worlds that fit the talk, were the speakers in who mad. */
     private int fittingWereMad(int who) {
         int fit = lawful();
         for (int k = 0; k < talk.sayings; k++) {
@@ -642,7 +641,6 @@ public final class SaidTwice {
         return fit;
     }
 
-    /** Sayings that can't be said in a world. */
     private int misfits(int w) {
         int found = 0;
         for (int k = 0; k < talk.sayings; k++) {
@@ -656,7 +654,6 @@ public final class SaidTwice {
         return some != 0 && (so == some || so == 0);
     }
 
-    /** Things that are so in all of some worlds, or in none; none if there are no worlds. */
     private static int thingsSure(int some, boolean inAll) {
         int found = 0;
         for (int x = 0; x < THINGS; x++) {
@@ -668,7 +665,7 @@ public final class SaidTwice {
 
     // ---- questions and strangers
 
-    /** Finds the best question, some worlds being left, as saying number n; false if there is none. */
+    /** Into best, for one object can't answer four numbers; false if there is no question. */
     private boolean findBest(int left, int n) {
         best.worst = WORLDS + 1;
         for (int s = 0; s < talk.speakers; s++) {
@@ -685,7 +682,6 @@ public final class SaidTwice {
         return Math.max(asTold, turned);
     }
 
-    /** The worst that the best second question can come to behind this one. */
     private int worstBehind(int fit, int s, int t) {
         int next = talk.sayings;
         int worst = 0;
@@ -700,7 +696,7 @@ public final class SaidTwice {
         int many = Integer.bitCount(fit);
         if (many == 0) return NONE;
         long lot = lotBehind(seed + 1L);
-        int truth = numbered(fit, (int) (lot % many));
+        int truth = worldNumber(fit, (int) (lot % many));
         int left = fit;
         int asked = 0;
         for (int i = 0; i < QUESTIONS && Integer.bitCount(left) > 1; i++) {
@@ -713,7 +709,7 @@ public final class SaidTwice {
         return asked;
     }
 
-    /** Worlds that fit what is said to the best question in the true world; all if nothing is. */
+    /** All worlds if nothing is said, for then all that were left stay. */
     private int answered(int truth, int n, boolean isEven) {
         int asTold = sayableNext(best.speaker, best.text, 0, n);
         int turned = sayableNext(best.speaker, best.text, 1, n);
@@ -727,7 +723,7 @@ public final class SaidTwice {
         return last * LOT_TIMES % LOT_MODULO;
     }
 
-    /** Whether of each two of the worlds one of some texts is so in just one. */
+    /** Two worlds with the same mark are not parted by any of the texts. */
     private boolean settles(int some, int fit) {
         long seen = 0;
         for (int w = 0; w < WORLDS; w++) {
@@ -740,7 +736,6 @@ public final class SaidTwice {
         return true;
     }
 
-    /** Those of some texts, as bits, of which ONCE is so in a world. */
     private int markOf(int some, int w) {
         int mark = 0;
         for (int t = 0; t < texts.size; t++) {
@@ -769,7 +764,7 @@ public final class SaidTwice {
         return isOneOf(at(talk.kindOf, s), kind) ? s : UNLIKE;
     }
 
-    /** Whether one of a kind is one of another: every one is a speaker, a turning is an early one. */
+    /** Every one is a speaker, a turning one is an early one, a hider a late one. */
     private static boolean isOneOf(int kind, int other) {
         if (kind == other || other == SPEAKER) return true;
         return kind == TURNING && other == EARLY || kind == HIDER && other == LATE;
@@ -886,12 +881,11 @@ public final class SaidTwice {
             size++;
         }
 
-        /** A part, 0 once, 1 twice, 2 costs, ends here, and the next one starts. */
+        /** The next part starts where this one ends. */
         private void endPart(int part) {
             put(starts, part + 1, size);
         }
 
-        /** Worlds in which a part is not 0, said by who. */
         private int truths(int part, int who) {
             int found = 0;
             for (int w = 0; w < WORLDS; w++) {
@@ -972,14 +966,12 @@ public final class SaidTwice {
         private boolean readText() {
             tokens.start();
             code.clear();
-            if (!readPart(ONCE, 0) || !readPart(TWICE, 1) || !readPart(COSTS, 2)) return false;
+            for (int part = 0; part < PARTS; part++) {
+                if (!readToken(ONCE + part) || !readOr(0)) return false;
+                code.endPart(part);
+                if (!readToken(';')) return false;
+            }
             return tokens.sort == END;
-        }
-
-        private boolean readPart(int key, int part) {
-            if (!readToken(key) || !readOr(0)) return false;
-            code.endPart(part);
-            return readToken(';');
         }
 
         private boolean readToken(int sort) {
@@ -1097,7 +1089,7 @@ public final class SaidTwice {
             size++;
         }
 
-        /** Worlds in which ONCE (which 0) or TWICE (1) of a text is so, said by who. */
+        /** Which is 0 for ONCE, 1 for TWICE: as turned, the first said is side 1. */
         private int side(int t, int who, int which) {
             return at(which == 0 ? once : twice, t * SPEAKERS + who);
         }
@@ -1129,7 +1121,6 @@ public final class SaidTwice {
             sayings++;
         }
 
-        /** Of saying k part 0 the speaker, 1 the text, 2 whether it is turned. */
         private int sayingPart(int k, int part) {
             return at(rows, ROW * k + part);
         }
@@ -1146,14 +1137,14 @@ public final class SaidTwice {
         }
     }
 
-    /** The best question that was found last. */
+    /** The best of the questions that were considered since worst was set. */
     private static final class Question {
         private int speaker;
         private int text;
         private int worst;
         private int cost;
 
-        /** Takes a question if it is better than the one it has; of like ones the first stays. */
+        /** Of like ones the first stays, so they must come in order. */
         private void consider(int s, int t, int itsWorst, int itsCost) {
             boolean better = itsWorst < worst || itsWorst == worst && itsCost < cost;
             if (!better) return;
@@ -1189,7 +1180,7 @@ public final class SaidTwice {
             return isBelow(i, at(sizes, s));
         }
 
-        /** Whether n numbers from i on are there; none are, up to the end, but not behind it. */
+        /** No sum of i and n, for that could wrap around. */
         private boolean holdsRun(int s, int i, int n) {
             return n >= 0 && i >= 0 && n <= at(sizes, s) && i <= at(sizes, s) - n;
         }

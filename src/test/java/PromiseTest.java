@@ -212,6 +212,7 @@ public final class PromiseTest {
         fault("once (((((a and (b", 16);
         fault("once -----(a", 10);
         faultsOfSpelling();
+        longTexts();
         fullTexts();
     }
 
@@ -231,6 +232,18 @@ public final class PromiseTest {
             fault("once " + (char) b + ";twice 0;costs 1;", 5);
             fault("once a " + (char) b + " a;twice 0;costs 1;", 7);
             fault("once a;twice 0;costs 1;" + (char) b, 23);
+        }
+    }
+
+    private static void longTexts() {
+        SaidTwice x = new SaidTwice();
+        for (int t = 1; t < 6; t++) {
+            StringBuilder once = new StringBuilder("a");
+            while (once.length() < 130) once.append("+1-1");
+            due("4 a long text", pair(x, once.toString(), "b", "" + t), t);
+            due("4 a long text", x.means(t, 0), A);
+            due("4 a long text", x.means(t, 1), B);
+            due("4 a long text", x.asks(t, 0, 0, 2), t);
         }
     }
 
@@ -506,10 +519,9 @@ public final class PromiseTest {
         y.force(1);
         due("15 the law is nobody's", y.worlds(), 0);
         SaidTwice z = new SaidTwice();
-        pair(z, "who=1 and a", "who=1 and b", "1");
-        z.speaker(EARLY, 0);
-        z.speaker(EARLY, 0);
-        z.say(1, 1, 1);
+        pair(z, "who=2 and a", "who=2 and b", "1");
+        for (int s = 0; s < 3; s++) z.speaker(EARLY, 0);
+        z.say(2, 1, 1);
         due("15 both said by who", z.worlds(), B & ~A);
         z.say(0, 1, 0);
         due("15 neither, said by another", z.worlds(), 0);
