@@ -344,6 +344,7 @@ public final class PromiseEdgeTest {
         due.stays(TORN.with("say", 0, 1, 1).with("say", 0, 1, 0).with("unsay"), 0b001, "lies");
         due.stays(WHOLE.with("unsay").with("say", 0, 4, 1), 1 << 11, "lies");
         due.stays(LAWLESS.with("say", 0, 0, 0), 0, "lies");
+        due.stays(EMPTY.fair("a").with("speaker", LATE, 0).with("say", 0, 1, 0).with("say", 0, 0, 0), 0b10, "lies");
     }
 
     private static void ofLeast() {
@@ -652,6 +653,11 @@ public final class PromiseEdgeTest {
             due.stays(judged.row(0, sort, 0, 0, 1, 0, 0, 2), 1, "judge", 0, 0);
             due.stays(judged.row(0, sort, 0, 0, 1, 0, 0, -1), 1, "judge", 0, 0);
         }
+        Scene mad = EMPTY.text("0", "0", "1").with("speaker", MAD, 0);
+        due.stays(mad.row(0, 2, 0, 1, 1), -1, "judge", 0, 0);
+        for (int number : outside(0, 1)) due.stays(mad.row(0, 2, 0, 1, 0, 0, 1, number), 1, "judge", 0, 0);
+        for (int number : outside(0, 1)) due.stays(mad.row(0, 2, 0, 1, 0, 0, number, 0), 1, "judge", 0, 0);
+        for (int number : outside(0, 0)) due.stays(mad.row(0, 2, 0, 1, 0, number, 1, 0), 1, "judge", 0, 0);
         due.stays(judged.row(0, 2, MAX, 0, 0), 0, "judge", 0, 0);
         due.stays(judged.row(0, 2, 0, MIN, 0), 0, "judge", 0, 0);
         due.stays(EMPTY.row(0, 0, 0, 0, 0), 0, "judge", 0, 0);
@@ -745,10 +751,10 @@ public final class PromiseEdgeTest {
         due.due("nobody", nobody.with("back").seen().equals(EMPTY.with("image").seen()) ? 1 : 0, 1);
     }
 
-    private static Scene allOnes(int s, int sort) {
+    private static Scene allOnes(Scene scene, int s, int sort) {
         int[] ones = new int[40];
         Arrays.fill(ones, 1);
-        return RICH.row(s, sort, ones);
+        return scene.row(s, sort, ones);
     }
 
     private static void ofSheet() {
@@ -759,10 +765,19 @@ public final class PromiseEdgeTest {
                 due.due("sheet", RICH.make().sheet(3, sort, n), 1);
                 due.stays(made, -12, "cell", 3, n, 0);
                 if (n > 0) due.stays(made, 1, "cell", 3, n - 1, 0);
-                for (Scene ones : new Scene[] {allOnes(3, 0), allOnes(3, 1), allOnes(3, 2), allOnes(3, 2).with("sheet", 3, -1, 0)}) {
-                    due.due("all 0", ones.with("sheet", 3, sort, n).seen().equals(made.seen()) ? 1 : 0, 1);
+                for (int was = 0; was < 3; was++) {
+                    Scene full = allOnes(RICH, 3, was);
+                    due.due("all 0", full.with("sheet", 3, sort, n).seen().equals(made.seen()) ? 1 : 0, 1);
+                    due.due("all 0", full.with("sheet", 3, -1, 0).with("sheet", 3, sort, n).seen().equals(made.seen()) ? 1 : 0, 1);
                 }
             }
+        }
+        Scene ones = RICH;
+        for (int s = 0; s < 4; s++) ones = allOnes(ones, s, 2);
+        for (int s = 0; s < 4; s++) {
+            Scene made = ones.with("sheet", s, 2, 40);
+            for (int i = 0; i < 40; i++) made = made.with("cell", s, i, 1);
+            due.due("just this one", made.seen().equals(ones.seen()) ? 1 : 0, 1);
         }
         for (int n : new int[] {0, 41, -1, MIN, MAX}) {
             due.due("missing", WHOLE.make().sheet(0, -1, n), 1);

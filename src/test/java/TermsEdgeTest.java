@@ -133,6 +133,14 @@ public final class TermsEdgeTest {
         fault("once |;twice 0;costs 1;");
         fault("once a;twice |;costs 1;");
         fault("once a;twice 0;costs |;");
+        for (String key : new String[] {"once", "twice", "costs", "or", "and", "not"}) {
+            if (!key.equals("once")) fault("|" + key + " a;twice 0;costs 1;");
+            if (!key.equals("twice")) fault("once a;|" + key + " 0;costs 1;");
+            if (!key.equals("costs")) fault("once a;twice 0;|" + key + " 1;");
+            if (!key.equals("not")) faultOfOnce("|" + key);
+            if (!key.equals("or") && !key.equals("and")) faultOfOnce("a |" + key + " b");
+            fault("once a;twice 0;costs 1;|" + key);
+        }
         due.of(0, "NOT: not NOT, or SUM, perhaps < or = and a SUM.");
         stands("a<b");
         faultOfOnce("a<b|<c");
@@ -183,6 +191,11 @@ public final class TermsEdgeTest {
         }
         fault(" ".repeat(159) + "|?");
         for (String word : new String[] {"o", "n", "an", "no", "onc", "ander", "twicee", "cost"}) fault("once a |" + word);
+        for (String word : new String[] {"ance", "wwice", "dosts", "ind", "ur", "mot", "tho", "whe", "nod", "anb", "oncf", "twicf", "costt"}) {
+            fault("once a |" + word);
+            faultOfOnce("|" + word);
+            fault("|" + word + " a;twice 0;costs 1;");
+        }
         fault("once a+|12345");
         fault("once 1234|x");
     }
@@ -280,6 +293,9 @@ public final class TermsEdgeTest {
         due.of(0, "if n is without rest by (MORE and 2), p and q change places.");
         long early = A & ~B;
         long changed = B & ~A;
+        for (int more = 0; more < 10; more++) {
+            for (int n = 0; n < 12; n++) due.due(n + " by " + (more + 2), left(TURNING, more, n), n % (more + 2) == 0 ? changed : early);
+        }
         due.due("0 by 2", left(TURNING, 0, 0), changed);
         due.due("1 by 2", left(TURNING, 0, 1), early);
         due.due("2 by 2", left(TURNING, 0, 2), changed);
