@@ -894,6 +894,47 @@ public final class ModelTest {
         }
     }
 
+    /** Short, and so in some worlds and not in others, so that questions part them unevenly. */
+    private static String unevenText(Lot lot) {
+        String[] some = {"a", "b", "c", "d", "e", "a or b", "c and d", "a + b + c < 2", "d = e", "who = 1", "e * c", "1"};
+        String once = some[lot.below(some.length)];
+        String twice = lot.below(2) == 0 ? some[lot.below(some.length)] : "not (" + once + ")";
+        return "once " + once + ";twice " + twice + ";costs " + lot.below(3) + ";";
+    }
+
+    /** What hangs on a question's number: hiders that hide from about then on, seeds up to the last. */
+    private static void questionsByLot(int run) {
+        Lot lot = new Lot(run + 1000000007L);
+        SaidTwice x = new SaidTwice();
+        Model m = new Model();
+        boolean fine = true;
+        for (int i = lot.below(5); i >= 0 && fine; i--) fine = feedText(run, x, m, unevenText(lot));
+        int said = lot.below(13);
+        for (int i = lot.below(5); i >= 0 && fine; i--) {
+            int kind = lot.below(2) == 0 ? 5 : lot.below(6);
+            int more = Math.max(0, Math.min(9, said - 2 + lot.below(6)));
+            fine = due(run, "speaker", x.speaker(kind, more), m.speaker(kind, more), kind, more);
+        }
+        for (int k = 0; k < said && fine; k++) {
+            int s = lot.below(m.speakers.size());
+            int t = lot.below(m.texts.size());
+            int turned = lot.below(2);
+            fine = due(run, "say", x.say(s, t, turned), m.say(s, t, turned), s, t, turned);
+            if (m.fit().size() < 2) fine = fine && due(run, "turn", x.turn(s, 5, 0), m.turn(s, 5, 0), s, 5, 0);
+            if (m.fit().size() < 2) fine = fine && due(run, "unsay", x.unsay(), m.unsay());
+        }
+        for (int what = 0; what < 3; what++) {
+            fine = fine && due(run, "ask", x.ask(what), m.ask(what), what) && due(run, "two", x.two(what), m.two(what), what);
+        }
+        for (int i = 0; i < 8 && fine; i++) {
+            int seed = lot.below(2) == 0 ? 99999 - lot.below(6) : lot.below(100000);
+            int seeds = 1 + lot.below(10);
+            fine = due(run, "drawn", x.drawn(seed), m.drawn(seed), seed)
+                && due(run, "mean", x.mean(seed, seeds, 0), m.mean(seed, seeds, 0), seed, seeds, 0)
+                && due(run, "mean", x.mean(seed, seeds, 1), m.mean(seed, seeds, 1), seed, seeds, 1);
+        }
+    }
+
     private static void textsByLot() {
         Lot lot = new Lot(77);
         int faults = 0;
@@ -915,6 +956,7 @@ public final class ModelTest {
         int runs = arguments.length > 0 ? Integer.parseInt(arguments[0]) : 400;
         textsByLot();
         for (int run = 0; run < runs && wrong < 20; run++) runByLot(run);
+        for (int run = 0; run < runs && wrong < 20; run++) questionsByLot(run);
         System.out.println("model: " + calls + " answers, " + wrong + " not as due");
         if (wrong != 0) System.exit(1);
     }
